@@ -882,7 +882,7 @@ public final class FlickerDesk {
         }
     }
 
-    /** What follows from a film: its counts and scenes, then targets, tables and evened dots; each made when asked for. */
+    /** What follows from a film: counts and scenes, then targets, tables and evened dots, each made when asked for. */
     private static final class Evening {
         final Tally ahead = new Tally();
         final Tally then = new Tally();
@@ -1458,7 +1458,7 @@ public final class FlickerDesk {
     private static final class Fit {
         /** By a shade, then by the shade to which it comes: how much its dots differ. */
         private final int[] costs = new int[SHADES * SHADES];
-        /** By a shade, then by the least to which it may come: how much its dots and those of greater ones differ at least. */
+        /** By a shade, then by the least to which it may come: what it and all greater ones cost at least. */
         final int[] least = new int[(SHADES + 1) * SHADES];
 
         void work(Film film, int from, int to) {

@@ -132,7 +132,7 @@ public final class PromisesTest {
         due("3 no byte", d.tell(0), 0);
         due("3 no frames", d.count(2), 0);
         due("3 no tape", d.count(6), 0);
-        String marked = "radius 2;weight 2 5;frame a16;frame b16;cut 1;skip 0;";
+        String marked = "radius 2;weight 0 3;weight 2 5;frame a16;frame b16;cut 1;skip 0;";
         for (int time = 0; time < 2; time++) {
             due("3 told again", Checks.tell(d, marked), 2);
             due("3 weight told again", d.count(12), 5);
