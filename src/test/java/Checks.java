@@ -52,6 +52,34 @@ final class Checks {
         return desk.tell(text.length());
     }
 
+    /** A new desk refuses the text by a fault at a place, and is empty behind it. */
+    void faulty(String text, int fault, int place) {
+        FlickerDesk desk = new FlickerDesk();
+        due("tell " + text, tell(desk, text), -30 - fault);
+        due("fault(0) of " + text, desk.fault(0), fault);
+        due("fault(1) of " + text, desk.fault(1), place);
+        due("count(6) behind " + text, desk.count(6), 0);
+        due("count(2) behind " + text, desk.count(2), 0);
+    }
+
+    /** A new desk takes the text. */
+    FlickerDesk right(String text, int frames) {
+        FlickerDesk desk = new FlickerDesk();
+        due("tell " + text, tell(desk, text), frames);
+        due("fault(0) of " + text, desk.fault(0), 0);
+        due("fault(1) of " + text, desk.fault(1), FlickerDesk.NONE);
+        return desk;
+    }
+
+    /** A film of frames with one dot each, so that a frame's mean is its shade. */
+    static FlickerDesk dots(String head, String shades) {
+        StringBuilder text = new StringBuilder("size 1 1;").append(head);
+        for (char c : shades.toCharArray()) {
+            text.append("frame ").append(c).append(';');
+        }
+        return desk(text.toString());
+    }
+
     static FlickerDesk desk(String text) {
         FlickerDesk desk = new FlickerDesk();
         int frames = tell(desk, text);

@@ -20,20 +20,11 @@ public final class FaultsTest {
     }
 
     private static void faulty(String text, int fault, int place) {
-        FlickerDesk desk = new FlickerDesk();
-        CHECKS.due("tell " + text, Checks.tell(desk, text), -30 - fault);
-        CHECKS.due("fault(0) of " + text, desk.fault(0), fault);
-        CHECKS.due("fault(1) of " + text, desk.fault(1), place);
-        CHECKS.due("count(6) behind " + text, desk.count(6), 0);
-        CHECKS.due("count(2) behind " + text, desk.count(2), 0);
+        CHECKS.faulty(text, fault, place);
     }
 
     private static FlickerDesk right(String text, int frames) {
-        FlickerDesk desk = new FlickerDesk();
-        CHECKS.due("tell " + text, Checks.tell(desk, text), frames);
-        CHECKS.due("fault(0) of " + text, desk.fault(0), 0);
-        CHECKS.due("fault(1) of " + text, desk.fault(1), -1);
-        return desk;
+        return CHECKS.right(text, frames);
     }
 
     private static void whatCannotStandThere() {

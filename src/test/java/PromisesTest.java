@@ -59,13 +59,8 @@ public final class PromisesTest {
         return Checks.desk(text);
     }
 
-    /** A film of frames with one dot each, so that a frame's mean is its shade. */
     private static FlickerDesk dots(String head, String shades) {
-        StringBuilder text = new StringBuilder("size 1 1;").append(head);
-        for (char c : shades.toCharArray()) {
-            text.append("frame ").append(c).append(';');
-        }
-        return desk(text.toString());
+        return Checks.dots(head, shades);
     }
 
     private static int thrown(FlickerDesk d, int frame, int place, boolean evened) {
