@@ -1,6 +1,6 @@
 import java.util.NoSuchElementException;
 
-/** Each call's numbers: the last that is taken and the first that is refused, by which code, and that it changes nothing. */
+/** Each call's numbers: the last taken, the first refused, by which code, and that refused calls change nothing. */
 public final class CallEdgesTest {
     private static final Checks CHECKS = new Checks("CallEdgesTest");
     private static final int NONE = FlickerDesk.NONE;
@@ -183,7 +183,8 @@ public final class CallEdgesTest {
         due("refused", d.tell(1), -3);
         due("none by a refused one", d.fault(0), 0);
         due("no place by a refused one", d.fault(1), NONE);
-        String[] texts = {"?", "radius 4;", "frame a17;", "frame a15;", "size 1 1;" + "frame b;".repeat(25), "white 0;black 1;"};
+        String[] texts = {"?", "radius 4;", "frame a17;", "frame a15;", "size 1 1;" + "frame b;".repeat(25),
+            "white 0;black 1;"};
         int[] places = {0, 7, 6, 9, 201, 16};
         for (int fault = 1; fault <= 6; fault++) {
             due("fault " + fault, Checks.tell(d, texts[fault - 1]), -30 - fault);
@@ -505,9 +506,13 @@ public final class CallEdgesTest {
         }
         refusedFor("frame of what", new int[] {LEAST, -2, -1, 9, 10, MOST}, -2, what -> d -> d.frame(0, what));
         FlickerDesk d = dots("cccccccccccccccccccccccc");
-        due("of the last what", d.frame(23, 8), 0);
-        due("of the last frame", d.frame(23, 0), 2);
-        due("of none", d.frame(24, 0), -2);
+        int[] first = {2, 0, 0, 1, 2, 1, 1, 2, 0};
+        int[] last = {2, 0, 0, 0, 2, 1, 1, 2, 0};
+        for (int what = 0; what <= 8; what++) {
+            due("of the first frame " + what, d.frame(0, what), first[what]);
+            due("of the last frame " + what, d.frame(23, what), last[what]);
+            due("of none " + what, d.frame(24, what), -2);
+        }
     }
 
     private static void apartSceneRankInverse() {

@@ -57,7 +57,8 @@ public final class TermsEdgesTest {
 
     private static void quotientsGoDownwards() {
         // Weights of distances 0 and 1; eight times one of them, by both.
-        int[][] rows = {{1, 1, 4, 4}, {1, 2, 2, 5}, {2, 7, 1, 6}, {8, 1, 7, 0}, {1, 8, 0, 7}, {9, 9, 4, 4}, {9, 1, 7, 0}};
+        int[][] rows = {{1, 1, 4, 4}, {1, 2, 2, 5}, {2, 7, 1, 6}, {8, 1, 7, 0}, {1, 8, 0, 7}, {9, 9, 4, 4},
+            {9, 1, 7, 0}};
         FlickerDesk d = desk("size 8 1;frame c8;frame d8;");
         for (int[] row : rows) {
             d.weight(0, row[0]);
@@ -345,8 +346,8 @@ public final class TermsEdgesTest {
     private static void ranksByAtMostEightRound() {
         FlickerDesk d = desk("size 8 8;frame b64;");
         // Corners have three round them, edges five, all others eight.
-        int[][] ranks = {{0, 0}, {7, 1}, {56, 2}, {63, 3}, {1, 4}, {6, 9}, {8, 10}, {15, 11}, {16, 12}, {55, 21}, {57, 22},
-            {62, 27}, {9, 28}, {14, 33}, {17, 34}, {54, 63}};
+        int[][] ranks = {{0, 0}, {7, 1}, {56, 2}, {63, 3}, {1, 4}, {6, 9}, {8, 10}, {15, 11}, {16, 12}, {55, 21},
+            {57, 22}, {62, 27}, {9, 28}, {14, 33}, {17, 34}, {54, 63}};
         for (int[] row : ranks) {
             due("rank of place " + row[0], d.rank(0, row[0]), row[1]);
         }
@@ -601,8 +602,8 @@ public final class TermsEdgesTest {
                 due("dots" + by, d.shift(0, 2), 1);
             }
         }
-        String[] far = {"size 4 1;frame baaa;frame cccb;", "size 4 1;frame aaab;frame bccc;", "size 1 4;frame baaa;frame cccb;",
-            "size 1 4;frame aaab;frame bccc;"};
+        String[] far = {"size 4 1;frame baaa;frame cccb;", "size 4 1;frame aaab;frame bccc;",
+            "size 1 4;frame baaa;frame cccb;", "size 1 4;frame aaab;frame bccc;"};
         for (String text : far) {
             due("three is too far: " + text, desk(text).shift(0, 2), 0);
         }

@@ -220,8 +220,8 @@ public final class TextEdgesTest {
     }
 
     private static void settingsWithout() {
-        FlickerDesk d = right("radius 3;weight 0 9;weight 1 9;weight 2 9;weight 3 9;black 2;white 3;step 4;border 5;keyed;",
-                0);
+        FlickerDesk d = right("radius 3;weight 0 9;weight 1 9;weight 2 9;weight 3 9;"
+                + "black 2;white 3;step 4;border 5;keyed;", 0);
         due("told again", Checks.tell(d, FRAME), 1);
         int[] without = {1, 0, 15, 15, 0, 0};
         for (int what = 0; what < 6; what++) {
@@ -299,7 +299,8 @@ public final class TextEdgesTest {
     }
 
     private static void linesToldOnce() {
-        String[] lines = {"size 4 4;", "radius 1;", "black 0;", "white 15;", "step 15;", "border 0;", "spread;", "keyed;"};
+        String[] lines = {"size 4 4;", "radius 1;", "black 0;", "white 15;", "step 15;", "border 0;", "spread;",
+            "keyed;"};
         for (String line : lines) {
             right(line, 0);
             faulty(line + line, 1, line.length());
@@ -355,8 +356,8 @@ public final class TextEdgesTest {
         faulty("sizez 1 1;", 1, 0);
         faulty("sizeA1 1;", 1, 4);
         right("radius1;step2;", 0);
-        for (String word : new String[] {"size", "frame", "radius", "weight", "black", "white", "step", "border", "spread",
-            "keyed", "cut", "skip"}) {
+        for (String word : new String[] {"size", "frame", "radius", "weight", "black", "white", "step", "border",
+            "spread", "keyed", "cut", "skip"}) {
             String text = "  " + word;
             faulty(text, 1, text.length());
             faulty(text.substring(0, text.length() - 1), 1, 2);
@@ -385,9 +386,9 @@ public final class TextEdgesTest {
         }
     }
 
-    private static final String[] TOKENS = {"size", "3", "2", ";", "radius", "2", ";", "weight", "1", "7", ";", "black", "2",
-        ";", "white", "12", ";", "step", "3", ";", "border", "50", ";", "keyed", ";", "frame", "a", "b", "2", "c", "1", "d",
-        "2", ";", "frame", "p", "6", ";", "cut", "1", ";", "skip", "0", ";"};
+    private static final String[] TOKENS = {"size", "3", "2", ";", "radius", "2", ";", "weight", "1", "7", ";", "black",
+        "2", ";", "white", "12", ";", "step", "3", ";", "border", "50", ";", "keyed", ";", "frame", "a", "b", "2", "c",
+        "1", "d", "2", ";", "frame", "p", "6", ";", "cut", "1", ";", "skip", "0", ";"};
 
     private static boolean isWord(String token) {
         return token.length() > 1 && token.charAt(0) >= 'a';
